@@ -460,7 +460,7 @@ public final class TwoWorlds {
         }
 
         boolean isTied(int a, int b) {
-            return has(b) && (tiesOf(a) >> b & 1) == 1;
+            return has(a) && has(b) && (ties[a] >> b & 1) == 1;
         }
 
         /** Whether this changed anything. */
@@ -1234,7 +1234,16 @@ public final class TwoWorlds {
             int replies = match.worldOn(1 - side).size();
             for (int reply = 0; reply < replies; reply++) {
                 int last = nodes.count();
-                partLonger(match, nodes, side, thing, reply);
+                boolean alike = match.staysAlike(side, thing, reply);
+                boolean longer = match.lengthen(side, thing, reply);
+                if (longer && alike) {
+                    partAlike(match, nodes, side);
+                } else if (longer) {
+                    partByAtom(match, nodes, side);
+                }
+                if (longer) {
+                    match.shorten();
+                }
                 if (nodes.standsEarlier(list + 1, last)) {
                     nodes.cutTo(last);
                 } else {
@@ -1246,19 +1255,6 @@ public final class TwoWorlds {
             } else {
                 nodes.close(list);
             }
-        }
-
-        private static void partLonger(Match match, Nodes nodes, int side, int thing, int reply) {
-            boolean alike = match.staysAlike(side, thing, reply);
-            if (!match.lengthen(side, thing, reply)) {
-                return;
-            }
-            if (alike) {
-                partAlike(match, nodes, side);
-            } else {
-                partByAtom(match, nodes, side);
-            }
-            match.shorten();
         }
 
         /** The rows were alike without their last things, so only atoms with these can part them. */
@@ -1277,8 +1273,11 @@ public final class TwoWorlds {
         }
 
         private static boolean addIfParting(Match match, Nodes nodes, int front, int sign, int a, int b) {
-            boolean ofFront = holdsOfRow(match, front, sign, a, b);
-            if (ofFront == holdsOfRow(match, 1 - front, sign, a, b)) {
+            boolean ofFront = match.worldOn(front)
+                    .holdsAtom(sign, match.rowThing(front, a - 1), match.rowThing(front, b - 1));
+            boolean ofOther = match.worldOn(1 - front)
+                    .holdsAtom(sign, match.rowThing(1 - front, a - 1), match.rowThing(1 - front, b - 1));
+            if (ofFront == ofOther) {
                 return false;
             }
             int not = nodes.count();
@@ -1288,10 +1287,6 @@ public final class TwoWorlds {
             nodes.add(sign, a, b);
             nodes.close(not);
             return true;
-        }
-
-        private static boolean holdsOfRow(Match match, int side, int sign, int a, int b) {
-            return match.worldOn(side).holdsAtom(sign, match.rowThing(side, a - 1), match.rowThing(side, b - 1));
         }
     }
 
