@@ -16,7 +16,7 @@ public final class TwoWorlds {
     private static final int QUANTIFIERS_AROUND = 8;
     private static final int ASKED_MOST = 100000;
     private static final int WRONG_BASE = -20;
-    /** The longest parting has 1294 bytes (6 things in each world, 3 rounds); a text that was read has no more than the tape. */
+    /** A parting of worlds of 6 things, 3 rounds deep, has at most 1294; a text that was read has no more than the tape. */
     private static final int TEXT_BYTES = 1300;
     /** 12 signs around, and an & or | within each of them, an atom innermost: no formula goes deeper. */
     private static final int DEEPEST = 30;

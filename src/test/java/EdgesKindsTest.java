@@ -1,6 +1,6 @@
 import java.util.function.Supplier;
 
-/** The edges of promises 25 to 31, and of what "Terms" says of partings, kinds and colours, each with its promise's number. */
+/** The edges of promises 25 to 31 (partings, kinds, colours), and of what "Terms" says of these: the number stands ahead. */
 public final class EdgesKindsTest {
     private static final Edges EDGES = new Edges("EdgesKindsTest");
     private static final int UNKNOWN = Edges.UNKNOWN, OUTSIDE = Edges.OUTSIDE, STATE = Edges.STATE, FULL = Edges.FULL;

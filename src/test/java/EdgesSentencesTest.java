@@ -319,8 +319,8 @@ public final class EdgesSentencesTest {
             EDGES.refusedBut("19 read: 601 nodes, " + more, fed(SOME, nearlyFull() + more), FULL, TwoWorlds::read,
                     y -> y.trim(0));
         }
-        EDGES.refusedBut("19 read: the most nodes that a tape holds", fed(SOME, "T" + ("&" + "-".repeat(12) + "T").repeat(57)),
-                FULL, TwoWorlds::read, y -> y.trim(0));
+        String most = "T" + ("&" + "-".repeat(12) + "T").repeat(57);
+        EDGES.refusedBut("19 read: the most nodes that a tape holds", fed(SOME, most), FULL, TwoWorlds::read, y -> y.trim(0));
         wrong("19 read: asked behind the text's end", nearlyFull() + "&-T&", nearlyFull().length() + 4);
         wrong("19 read: asked behind the text's end", nearlyFull() + "&-T)", nearlyFull().length() + 3);
         wrong("19 read: asked behind the text's end", nearlyFull() + "&--T  x", nearlyFull().length() + 6);
