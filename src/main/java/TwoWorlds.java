@@ -16,7 +16,7 @@ public final class TwoWorlds {
     private static final int QUANTIFIERS_AROUND = 8;
     private static final int ASKED_MOST = 100000;
     private static final int WRONG_BASE = -20;
-    /** A parting of worlds of 6 things, 3 rounds deep, has at most 1294; a text that was read has no more than the tape. */
+    /** A parting of worlds of 6 things, 3 rounds deep, has at most 1294; what was read has no more than the tape. */
     private static final int TEXT_BYTES = 1300;
     /** 12 signs around, and an & or | within each of them, an atom innermost: no formula goes deeper. */
     private static final int DEEPEST = 30;
@@ -613,7 +613,7 @@ public final class TwoWorlds {
         }
 
         /** From rows that are alike. */
-        boolean keeperWins(int rounds) {
+        private boolean keeperWins(int rounds) {
             if (rounds <= 0 || length < 0 || length >= ROUNDS) {
                 return true;
             }
@@ -1210,7 +1210,7 @@ public final class TwoWorlds {
     /** Makes the formula that parts the rows of a match; the side in front is the one of which it holds. */
     private static final class Parting {
         /** Of rows that are alike, and with which the seeker wins in the rounds for which there is room. */
-        static void partAlike(Match match, Nodes nodes, int front) {
+        private static void partAlike(Match match, Nodes nodes, int front) {
             int rounds = match.leastRounds();
             int choice = rounds == NONE ? NONE : match.firstPick(front, rounds);
             if (choice < 0) {
@@ -1448,11 +1448,11 @@ public final class TwoWorlds {
             found = 0;
             for (int i = 0; i < items && i < finer.length; i++) {
                 int like = firstLike(i);
-                if (like == i) {
+                if (like >= 0 && like < i) {
+                    finer[i] = finer[like];
+                } else {
                     finer[i] = found;
                     found++;
-                } else {
-                    finer[i] = finer[like];
                 }
             }
             System.arraycopy(finer, 0, colours, 0, colours.length);
